@@ -296,6 +296,17 @@ public final class QuestionsTest {
         sureIs(zero, 0, 0);
         zero.totals(4);
         sureIs(zero, 0, 4);
+        int[] highTotals = {999, 5993, 5994, 5995, 9998, 9999};
+        for (int total : highTotals) {
+            zero.totals(total);
+            sureIs(zero, NONE, NONE);
+        }
+        String nine = "n?ne hundred and ninety nine=999";
+        WornSums highest = with(nine, nine, nine, nine, nine, nine);
+        highest.totals(5994);
+        sureIs(highest, 999, 999, 999, 999, 999, 999);
+        highest.totals(5993);
+        sureIs(highest, NONE, NONE, NONE, NONE, NONE, NONE);
     }
 
     private static void looks() {

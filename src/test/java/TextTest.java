@@ -138,6 +138,11 @@ public final class TextTest {
         faults(LETTERS_31 + "=1234", 35);
         faults(LETTERS_31.substring(1) + " =1", 30);
         faults(LETTERS_31.substring(1) + " a=1", 31);
+        WornSums sums = new WornSums();
+        Checks.typeAll(sums, "one =1");
+        sums.clear();
+        Checks.typeAll(sums, "one ");
+        CHECKS.due("tells(): the = of an earlier text is gone", sums.tells(), -14);
         faults(LETTERS_31 + "aaaaaaaaa", 31);
     }
 
