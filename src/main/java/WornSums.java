@@ -507,8 +507,8 @@ public final class WornSums {
         private int size = 0;
 
         void remember(Sheet sheet) {
-            sheets[next].copyFrom(sheet);
-            next = next + 1 < UNDO_LIMIT ? next + 1 : 0;
+            sheets[slotOf(next)].copyFrom(sheet);
+            next = slotOf(next + 1);
             size = Math.min(size + 1, UNDO_LIMIT);
         }
 
@@ -516,9 +516,13 @@ public final class WornSums {
             if (size == 0) {
                 return;
             }
-            next = next > 0 ? next - 1 : UNDO_LIMIT - 1;
+            next = slotOf(next - 1);
             sheet.copyFrom(sheets[next]);
             size--;
+        }
+
+        private static int slotOf(int n) {
+            return Math.floorMod(n, UNDO_LIMIT);
         }
     }
 
@@ -937,8 +941,9 @@ public final class WornSums {
 
         /** Marks the sums, up to TOTAL, to which all ENTRIES but one come. */
         private void reachWithout(int entry, int size, int total) {
-            Arrays.fill(reached, false);
-            reached[0] = true;
+            for (int sum = 0; sum < reached.length; sum++) {
+                reached[sum] = sum == 0;
+            }
             int highest = 0;
             for (int i = 0; i < size && i < ENTRY_LIMIT; i++) {
                 if (i != entry) {

@@ -24,18 +24,18 @@ public final class ChangesTest {
         return sums;
     }
 
-    private static void refused(WornSums sums, String call, String before, int got, int want) {
-        CHECKS.due(call, got, want);
-        CHECKS.holds(call + " changes nothing", Checks.all(sums).equals(before));
+    private static void unchanged(WornSums sums, String before) {
+        CHECKS.same("all behind the refused calls", Checks.all(sums), before);
     }
 
     private static void dropping() {
         WornSums sums = three();
         String before = Checks.all(sums);
-        refused(sums, "drops(-1)", before, sums.drops(-1), WornSums.BAD);
-        refused(sums, "drops(3)", before, sums.drops(3), WornSums.BAD);
-        refused(sums, "drops(MIN)", before, sums.drops(MIN), WornSums.BAD);
-        refused(sums, "drops(MAX)", before, sums.drops(MAX), WornSums.BAD);
+        CHECKS.due("drops(-1)", sums.drops(-1), WornSums.BAD);
+        CHECKS.due("drops(3)", sums.drops(3), WornSums.BAD);
+        CHECKS.due("drops(MIN)", sums.drops(MIN), WornSums.BAD);
+        CHECKS.due("drops(MAX)", sums.drops(MAX), WornSums.BAD);
+        unchanged(sums, before);
         CHECKS.due("drops(1)", sums.drops(1), 2);
         CHECKS.holds("those behind move up",
                 Checks.state(sums).equals("twenty one=21|one hundred=100| slack 0 total -9"));
@@ -50,18 +50,19 @@ public final class ChangesTest {
     private static void wearing() {
         WornSums sums = three();
         String before = Checks.all(sums);
-        refused(sums, "wears(-1, 0, 0)", before, sums.wears(-1, 0, 0), WornSums.BAD);
-        refused(sums, "wears(3, 0, 0)", before, sums.wears(3, 0, 0), WornSums.BAD);
-        refused(sums, "wears(0, -1, 0)", before, sums.wears(0, -1, 0), WornSums.BAD);
-        refused(sums, "wears(0, 2, 0)", before, sums.wears(0, 2, 0), WornSums.BAD);
-        refused(sums, "wears(0, 0, -1)", before, sums.wears(0, 0, -1), WornSums.BAD);
-        refused(sums, "wears(0, 0, 10)", before, sums.wears(0, 0, 10), WornSums.BAD);
-        refused(sums, "wears(0, 1, 2)", before, sums.wears(0, 1, 2), WornSums.BAD);
-        refused(sums, "wears(0, 0, MAX)", before, sums.wears(0, 0, MAX), WornSums.BAD);
-        refused(sums, "wears(0, 0, MIN)", before, sums.wears(0, 0, MIN), WornSums.BAD);
-        refused(sums, "wears at a blank", before, sums.wears(0, 0, 6), WornSums.STATE);
-        refused(sums, "wears at ?", before, sums.wears(1, 0, 0), WornSums.STATE);
-        refused(sums, "wears at a figure's ?", before, sums.wears(1, 1, 1), WornSums.STATE);
+        CHECKS.due("wears(-1, 0, 0)", sums.wears(-1, 0, 0), WornSums.BAD);
+        CHECKS.due("wears(3, 0, 0)", sums.wears(3, 0, 0), WornSums.BAD);
+        CHECKS.due("wears(0, -1, 0)", sums.wears(0, -1, 0), WornSums.BAD);
+        CHECKS.due("wears(0, 2, 0)", sums.wears(0, 2, 0), WornSums.BAD);
+        CHECKS.due("wears(0, 0, -1)", sums.wears(0, 0, -1), WornSums.BAD);
+        CHECKS.due("wears(0, 0, 10)", sums.wears(0, 0, 10), WornSums.BAD);
+        CHECKS.due("wears(0, 1, 2)", sums.wears(0, 1, 2), WornSums.BAD);
+        CHECKS.due("wears(0, 0, MAX)", sums.wears(0, 0, MAX), WornSums.BAD);
+        CHECKS.due("wears(0, 0, MIN)", sums.wears(0, 0, MIN), WornSums.BAD);
+        CHECKS.due("wears at a blank", sums.wears(0, 0, 6), WornSums.STATE);
+        CHECKS.due("wears at ?", sums.wears(1, 0, 0), WornSums.STATE);
+        CHECKS.due("wears at a figure's ?", sums.wears(1, 1, 1), WornSums.STATE);
+        unchanged(sums, before);
         CHECKS.due("wears(0, 0, 0)", sums.wears(0, 0, 0), 't');
         CHECKS.due("wears(0, 0, 9)", sums.wears(0, 0, 9), 'e');
         CHECKS.due("wears(2, 1, 2)", sums.wears(2, 1, 2), '0');
@@ -74,26 +75,27 @@ public final class ChangesTest {
     private static void making() {
         WornSums sums = three();
         String before = Checks.all(sums);
-        refused(sums, "makes(-1, 0, 0, 'a')", before, sums.makes(-1, 0, 0, 'a'), WornSums.BAD);
-        refused(sums, "makes(3, 0, 0, 'a')", before, sums.makes(3, 0, 0, 'a'), WornSums.BAD);
-        refused(sums, "makes(1, 2, 0, 'a')", before, sums.makes(1, 2, 0, 'a'), WornSums.BAD);
-        refused(sums, "makes(1, -1, 0, 'a')", before, sums.makes(1, -1, 0, 'a'), WornSums.BAD);
-        refused(sums, "makes(1, 0, -1, 'a')", before, sums.makes(1, 0, -1, 'a'), WornSums.BAD);
-        refused(sums, "makes(1, 0, 3, 'a')", before, sums.makes(1, 0, 3, 'a'), WornSums.BAD);
-        refused(sums, "makes(1, 1, 2, '1')", before, sums.makes(1, 1, 2, '1'), WornSums.BAD);
+        CHECKS.due("makes(-1, 0, 0, 'a')", sums.makes(-1, 0, 0, 'a'), WornSums.BAD);
+        CHECKS.due("makes(3, 0, 0, 'a')", sums.makes(3, 0, 0, 'a'), WornSums.BAD);
+        CHECKS.due("makes(1, 2, 0, 'a')", sums.makes(1, 2, 0, 'a'), WornSums.BAD);
+        CHECKS.due("makes(1, -1, 0, 'a')", sums.makes(1, -1, 0, 'a'), WornSums.BAD);
+        CHECKS.due("makes(1, 0, -1, 'a')", sums.makes(1, 0, -1, 'a'), WornSums.BAD);
+        CHECKS.due("makes(1, 0, 3, 'a')", sums.makes(1, 0, 3, 'a'), WornSums.BAD);
+        CHECKS.due("makes(1, 1, 2, '1')", sums.makes(1, 1, 2, '1'), WornSums.BAD);
         int[] noLetters = {'`', '{', '?', ' ', '=', '5', 'A', 0, -1, 256 + 'a', 65536 + 'a', MIN, MAX};
         for (int sign : noLetters) {
-            refused(sums, "makes(1, 0, 0, " + sign + ")", before, sums.makes(1, 0, 0, sign), WornSums.BAD);
-            refused(sums, "BAD ahead of STATE", before, sums.makes(0, 0, 0, sign), WornSums.BAD);
+            CHECKS.due("makes(1, 0, 0, " + sign + ")", sums.makes(1, 0, 0, sign), WornSums.BAD);
+            CHECKS.due("BAD ahead of STATE", sums.makes(0, 0, 0, sign), WornSums.BAD);
         }
         int[] noFigures = {'/', ':', '?', ' ', 'a', 0, 5, -1, 65536 + '1', MIN, MAX};
         for (int sign : noFigures) {
-            refused(sums, "makes(1, 1, 1, " + sign + ")", before, sums.makes(1, 1, 1, sign), WornSums.BAD);
-            refused(sums, "BAD ahead of STATE", before, sums.makes(0, 1, 0, sign), WornSums.BAD);
+            CHECKS.due("makes(1, 1, 1, " + sign + ")", sums.makes(1, 1, 1, sign), WornSums.BAD);
+            CHECKS.due("BAD ahead of STATE", sums.makes(0, 1, 0, sign), WornSums.BAD);
         }
-        refused(sums, "makes at a letter", before, sums.makes(1, 0, 1, 'a'), WornSums.STATE);
-        refused(sums, "makes at a blank", before, sums.makes(0, 0, 6, 'a'), WornSums.STATE);
-        refused(sums, "makes at a figure", before, sums.makes(1, 1, 0, '1'), WornSums.STATE);
+        CHECKS.due("makes at a letter", sums.makes(1, 0, 1, 'a'), WornSums.STATE);
+        CHECKS.due("makes at a blank", sums.makes(0, 0, 6, 'a'), WornSums.STATE);
+        CHECKS.due("makes at a figure", sums.makes(1, 1, 0, '1'), WornSums.STATE);
+        unchanged(sums, before);
         CHECKS.due("makes(1, 0, 0, 's')", sums.makes(1, 0, 0, 's'), 1);
         CHECKS.due("makes(1, 1, 1, '9')", sums.makes(1, 1, 1, '9'), 0);
         CHECKS.holds("they are made out", Checks.words(sums, 1).equals("six") && Checks.figures(sums, 1).equals("69"));
@@ -115,9 +117,10 @@ public final class ChangesTest {
     private static void slacking() {
         WornSums sums = three();
         String before = Checks.all(sums);
-        refused(sums, "slacks(-1)", before, sums.slacks(-1), WornSums.BAD);
-        refused(sums, "slacks(3)", before, sums.slacks(3), WornSums.BAD);
-        refused(sums, "slacks(0)", before, sums.slacks(0), WornSums.STATE);
+        CHECKS.due("slacks(-1)", sums.slacks(-1), WornSums.BAD);
+        CHECKS.due("slacks(3)", sums.slacks(3), WornSums.BAD);
+        CHECKS.due("slacks(0)", sums.slacks(0), WornSums.STATE);
+        unchanged(sums, before);
         CHECKS.due("slacks(2)", sums.slacks(2), 0);
         CHECKS.due("slacks(2) again", sums.slacks(2), WornSums.STATE);
         CHECKS.due("slacks(1)", sums.slacks(1), 2);
@@ -129,11 +132,12 @@ public final class ChangesTest {
     private static void totalling() {
         WornSums sums = three();
         String before = Checks.all(sums);
-        refused(sums, "totals(-1)", before, sums.totals(-1), WornSums.BAD);
-        refused(sums, "totals(-8)", before, sums.totals(-8), WornSums.BAD);
-        refused(sums, "totals(-10)", before, sums.totals(-10), WornSums.BAD);
-        refused(sums, "totals(10000)", before, sums.totals(10000), WornSums.BAD);
-        refused(sums, "totals(NONE)", before, sums.totals(WornSums.NONE), WornSums.STATE);
+        CHECKS.due("totals(-1)", sums.totals(-1), WornSums.BAD);
+        CHECKS.due("totals(-8)", sums.totals(-8), WornSums.BAD);
+        CHECKS.due("totals(-10)", sums.totals(-10), WornSums.BAD);
+        CHECKS.due("totals(10000)", sums.totals(10000), WornSums.BAD);
+        CHECKS.due("totals(NONE)", sums.totals(WornSums.NONE), WornSums.STATE);
+        unchanged(sums, before);
         CHECKS.due("totals(9999)", sums.totals(9999), WornSums.NONE);
         CHECKS.due("totals(9999) again", sums.totals(9999), WornSums.STATE);
         CHECKS.due("totals(0)", sums.totals(0), 9999);
@@ -176,7 +180,8 @@ public final class ChangesTest {
         CHECKS.due("undo()", sums.undo(), 1);
         CHECKS.due("undo()", sums.undo(), 0);
         String before = Checks.all(sums);
-        refused(sums, "undo() of nothing", before, sums.undo(), WornSums.STATE);
+        CHECKS.due("undo() of nothing", sums.undo(), WornSums.STATE);
+        unchanged(sums, before);
     }
 
     /** What had been found out is found out anew behind undo(). */

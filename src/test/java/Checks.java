@@ -2,12 +2,18 @@
 final class Checks {
     private int wrong = 0;
     private int made = 0;
+    private String sentence = "";
+
+    /** What the document says that the next checks are about. */
+    void sentence(String words) {
+        sentence = "[" + words + "] ";
+    }
 
     void due(String call, long got, long want) {
         made++;
         if (got != want) {
             wrong++;
-            System.out.println(call + " answered " + got + ", due is " + want);
+            System.out.println(sentence + call + " answered " + got + ", due is " + want);
         }
     }
 
@@ -15,7 +21,15 @@ final class Checks {
         made++;
         if (!isSo) {
             wrong++;
-            System.out.println("not so: " + what);
+            System.out.println(sentence + "not so: " + what);
+        }
+    }
+
+    void same(String what, String got, String want) {
+        made++;
+        if (!got.equals(want)) {
+            wrong++;
+            System.out.println(sentence + what + " is '" + got + "', due is '" + want + "'");
         }
     }
 

@@ -29,6 +29,7 @@ public final class LanguageTest {
         checkClasses(checks, code);
         checkStaticFields(checks, code);
         checkMethodLengths(checks, code);
+        checkFilledArrays(checks, code);
         checks.end("LanguageTest");
     }
 
@@ -83,6 +84,15 @@ public final class LanguageTest {
             }
             checks.holds("short: " + lines[begin].strip(), end - begin <= LONGEST_METHOD);
             checks.holds("seven parameters at most: " + lines[begin].strip(), head.group(2).split(",").length <= 7);
+        }
+    }
+
+    /** Arrays.fill and its like are for arrays of numbers alone. */
+    private static void checkFilledArrays(Checks checks, String code) {
+        Matcher names = Pattern.compile("(?:boolean|[A-Z]\\w*)\\[\\] (\\w+)").matcher(code);
+        while (names.find()) {
+            Matcher used = Pattern.compile("\\bArrays\\.\\w+\\(" + names.group(1) + "\\b").matcher(code);
+            checks.holds("an array of numbers: " + names.group(1), !used.find());
         }
     }
 }

@@ -47,7 +47,8 @@ public final class ModelTest {
 
     private void play() {
         try {
-            while (calls < CALLS && !checks.failed()) {
+            // the last letter of a text and tells() are one step of two calls
+            while (calls + 2 <= CALLS && !checks.failed()) {
                 step();
             }
         } catch (RuntimeException thrown) {

@@ -164,7 +164,8 @@ public final class QuestionsTest {
         rankedIs(slack, 0, 5, 4, 9, 7);
     }
 
-    private static void wordIs(WornSums sums, int number, String due) {
+    private static void wordIs(int number, String due) {
+        WornSums sums = new WornSums();
         CHECKS.due("word(" + number + ", -1)", sums.word(number, -1), due.length());
         StringBuilder got = new StringBuilder();
         for (int k = 0; k < due.length(); k++) {
@@ -176,7 +177,6 @@ public final class QuestionsTest {
     }
 
     private static void words() {
-        WornSums sums = new WornSums();
         String[] small = {"zero", "one", "two", "three", "four", "five", "six", "seven", "eight", "nine", "ten", "eleven",
             "twelve", "thirteen", "fourteen", "fifteen", "sixteen", "seventeen", "eighteen", "nineteen"};
         String[] tens = {"", "", "twenty", "thirty", "forty", "fifty", "sixty", "seventy", "eighty", "ninety"};
@@ -186,10 +186,11 @@ public final class QuestionsTest {
                     : left % 10 == 0 ? tens[left / 10] : tens[left / 10] + " " + small[left % 10];
             String due = number < 100 ? belowHundred
                     : small[number / 100] + " hundred" + (left == 0 ? "" : " and " + belowHundred);
-            wordIs(sums, number, due);
+            wordIs(number, due);
         }
-        wordIs(sums, 115, "one hundred and fifteen");
-        wordIs(sums, 900, "nine hundred");
+        wordIs(115, "one hundred and fifteen");
+        wordIs(900, "nine hundred");
+        WornSums sums = new WornSums();
         CHECKS.due("word(-1, 0)", sums.word(-1, 0), BAD);
         CHECKS.due("word(1000, 0)", sums.word(1000, 0), BAD);
         CHECKS.due("word(MIN, 0)", sums.word(MIN, 0), BAD);

@@ -26,7 +26,7 @@ public final class RoomTest {
         for (int entry = 0; entry < 6; entry++) {
             Checks.tell(sums, "??? hundred and ?????? ???=???");
         }
-        for (int n = 0; n < 60; n++) {
+        for (int n = 0; n < 45; n++) {
             sums.totals(2000 + n);
             sums.least(-1);
             sums.sure(n % 6);
